@@ -1,0 +1,71 @@
+import java.nio.charset.StandardCharsets;
+
+/** Compares answers with those that are due, and ends a test. */
+final class Due {
+    static final String CALLED = "reach mouth 10 10 10 10;reach 0 50 20 0 0 sink 5;right 0 40 0 359 age 1;"
+        + "right 1 30 0 359 age 5 back 0 50 2;store 1 100 20 age 9";
+
+    private int wrong;
+
+    void is(String call, long got, long want) {
+        if (got != want) {
+            wrong++;
+            System.out.println(call + " answered " + got + ", due is " + want);
+        }
+    }
+
+    void is(String call, String got, String want) {
+        if (!got.equals(want)) {
+            wrong++;
+            System.out.println(call + " answered " + got + ", due is " + want);
+        }
+    }
+
+    void end() {
+        if (wrong != 0) {
+            System.out.println(wrong + " answers are not as due");
+            System.exit(1);
+        }
+    }
+
+    /** Puts a text of bytes 0 to 255 behind an empty TAPE. */
+    static void tape(RiverCall x, String text) {
+        byte[] bytes = text.getBytes(StandardCharsets.ISO_8859_1);
+        for (int i = 0; i < bytes.length; i += 20) {
+            x.feed(number(bytes, i), number(bytes, i + 4), number(bytes, i + 8),
+                number(bytes, i + 12), number(bytes, i + 16));
+        }
+        x.end(bytes.length);
+    }
+
+    private static int number(byte[] bytes, int from) {
+        int number = 0;
+        for (int i = from; i < from + 4; i++) {
+            number = number << 8 | (i < bytes.length ? bytes[i] & 255 : 0);
+        }
+        return number;
+    }
+
+    static int tell(RiverCall x, String text) {
+        tape(x, text);
+        return x.tell();
+    }
+
+    static RiverCall told(String text) {
+        RiverCall x = new RiverCall();
+        int answer = tell(x, text);
+        if (answer < 0) {
+            throw new IllegalStateException("not a river: " + text + ": " + answer);
+        }
+        return x;
+    }
+
+    static String letters(RiverCall x) {
+        StringBuilder text = new StringBuilder();
+        int length = x.letter(RiverCall.NONE);
+        for (int k = 0; k < length; k++) {
+            text.append((char) x.letter(k));
+        }
+        return text.toString();
+    }
+}
