@@ -43,6 +43,7 @@ public final class AheadTest {
         DUE.is("no days", x.dry(0), -1);
         DUE.is("eleven days", x.dry(11), -1);
         DUE.is("by none", Due.told("reach mouth 1 1 1 1;right 0 5 9 9 age 1").dry(10), -2);
+        DUE.is("by 400", Due.told("reach mouth 1 1 1 1;right 0 4 0 359 age 1").dry(3), 400);
         DUE.is("not in nine", Due.told("reach mouth 1 1 1 1;right 0 5 9 9 age 1").dry(9), 0);
         DUE.is("no rights", Due.told("reach mouth 1 1 1 1").dry(10), 0);
     }
@@ -132,6 +133,9 @@ public final class AheadTest {
         DUE.is("the younger", y.movable(1), 5);
         DUE.is("no right", y.movable(2), -1);
         DUE.is("no right below", y.movable(-1), -1);
+        RiverCall z = Due.told("reach mouth 9 9 9 9;reach mouth 4 4 4 4;right 1 3 0 359 age 2;right 0 5 0 359 age 1");
+        DUE.is("the first one would be hurt", z.movable(1), 0);
+        DUE.is("so it stays", z.move(1, 1), -3);
         DUE.is("nowhere", Due.told("reach mouth 9 9 9 9;right 0 5 0 359 age 1").movable(0), 0);
     }
 

@@ -142,6 +142,10 @@ public final class DayTest {
         row("what it lacks", stored(x, 0), 1, 0, 0, 25);
         x.days(1);
         row("full", stored(x, 0), 0, 0, 0, 25);
+        RiverCall y = Due.told("reach mouth 9 9 9 9;store 0 5 3 age 1;store 0 5 2 age 2;right 0 1 0 359 age 3;right 0 2 0 359 age 4");
+        row("all at one reach", flows(y, 0), 9, 0, 9, 8, 1);
+        y.days(1);
+        DUE.is("in both stores", y.gone(5), 5);
         DUE.is("the right has all", x.takes(0, 0), 9);
     }
 
@@ -282,6 +286,10 @@ public final class DayTest {
         row("no futile", new long[] {x.futile(0, 0), x.futile(0, 5), x.futile(5, 0), x.futile(-1, 0)}, -1, -1, -1, -1);
         RiverCall y = Due.told("reach mouth 4 4 4 4;reach 0 4 4 4 4;right 0 9 0 359 age 1;right 0 2 0 359 age 3;store 0 9 9 age 2");
         row("at one reach, none taken", new long[] {y.futile(0, 1), y.calls(1)}, 0, 0);
+        RiverCall z = Due.told("reach mouth 0 0 0 0;reach 0 1 1 1 1 sink 1;right 0 1 0 359 age 1;right 1 1 0 359 age 2");
+        row("one is something", new long[] {z.futile(0, 1), z.calls(1)}, 1, 1);
+        z.demand(0, 0);
+        row("it does not call", new long[] {z.futile(0, 1), z.calls(1)}, 0, 0);
     }
 
     private static void byAges() {

@@ -107,6 +107,8 @@ public final class TextTest {
         fault("wet 3wet 4", 5, 1);
         fault("wets 3", 0, 1);
         fault("we 3", 0, 1);
+        fault("weta 3", 0, 1);
+        fault("wetz 3", 0, 1);
         fault("Wet 3", 0, 1);
         fault("wet\t3", 3, 1);
         fault("wet ", 4, 1);
@@ -230,6 +232,14 @@ public final class TextTest {
         DUE.is("took nothing", x.right(0, 12), 0);
         DUE.is("back to the shelf", x.back(1), 3);
         DUE.is("the river of the shelf", x.count(1), 2);
+        DUE.is("a third river", Due.tell(x, "reach mouth 1 1 1 1;store 0 9 1 age 4"), 0);
+        DUE.is("an empty store", x.gone(5), 0);
+        DUE.is("its text", Due.letters(x), "reach mouth 1 1 1 1;store 0 9 1 age 4");
+        x.days(2);
+        DUE.is("a fourth river", Due.tell(x, ""), 0);
+        DUE.is("its text", Due.letters(x), "");
+        DUE.is("a fifth river", Due.tell(x, "reach mouth 1 1 1 1;store 0 9 1 age 4"), 0);
+        DUE.is("an empty store again", x.gone(5), 0);
     }
 
     private static void letters() {
@@ -254,6 +264,8 @@ public final class TextTest {
             + "right 0 1 0 359 age 3 vol 999999 back 0 0 30;right 0 10 5 5 age 1;store 0 5 6 age 7;wet 0");
         DUE.is("no letters", new RiverCall().letter(-1), 0);
         DUE.is("no first letter", new RiverCall().letter(0), -2);
+        String least = "reach mouth 0 0 0 0 sink 1;right 0 1 0 0 age 0 vol 1 back 0 1 1";
+        DUE.is("the least of all", Due.letters(Due.told(least)), least);
         RiverCall y = Due.told(Due.CALLED);
         DUE.is("letter of the river", Due.letters(y), Due.CALLED);
         RiverCall z = Due.told(Due.letters(y));
