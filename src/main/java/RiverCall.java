@@ -14,7 +14,9 @@ public final class RiverCall {
     private static final int MAX_RIGHTS = 14;
     private static final int MAX_STORES = 4;
     private static final int MAX_TAKERS = MAX_RIGHTS + MAX_STORES;
-    /** A STORE among TAKERS is told as this and its number. */
+    /** Where RIGHTS and STORES stand in one row, STORES begin here. */
+    private static final int FIRST_STORE = MAX_RIGHTS;
+    /** The face tells a STORE among RIGHTS as this and its number. */
     private static final int STORE = 100;
 
     private static final int YEAR = 360;
@@ -318,7 +320,7 @@ public final class RiverCall {
             case 1: return today.backOf(reach);
             case 2: return today.there[reach] + today.takenAt(reach);
             case 3: return today.takenAt(reach);
-            case 4: return today.runsOut(reach);
+            case 4: return today.out[reach];
             default: return NONE;
         }
     }
@@ -344,7 +346,7 @@ public final class RiverCall {
         }
         look();
         switch (what) {
-            case 0: return today.fills[store];
+            case 0: return today.filledInto(store);
             case 1: return today.letByOrder[store];
             case 2: return today.letByBarter[store];
             case 3: return today.contentBehind(store);
@@ -358,8 +360,7 @@ public final class RiverCall {
         }
         look();
         int takes = today.byAge[right];
-        today.takeAlone(right);
-        return today.byAge[right] - takes;
+        return today.mostAlone(right) - takes;
     }
 
     public int caller(int right) {
@@ -373,9 +374,10 @@ public final class RiverCall {
             if (older == right) {
                 break;
             }
+            today.bringWater();
             today.takeByAge(older);
             if (today.byAge[right] > takes) {
-                return older;
+                return nameOf(older);
             }
         }
         return NOTHING;
@@ -465,7 +467,8 @@ public final class RiverCall {
             return NONE;
         }
         lookAhead();
-        lookAheadMoved(right, reach);
+        outlook.beginMoved(river, state, right, reach);
+        outlook.run(YEAR, NONE);
         return Math.max(0, unchanged[other] - outlook.tookOf(other));
     }
 
@@ -492,15 +495,10 @@ public final class RiverCall {
         }
     }
 
-    private void lookAheadMoved(int right, int reach) {
-        outlook.begin(river, state);
-        outlook.state.at[right] = reach;
-        outlook.run(YEAR, NONE);
-    }
-
     /** Only behind lookAhead(). */
     private boolean hurtsSomebody(int right, int reach) {
-        lookAheadMoved(right, reach);
+        outlook.beginMoved(river, state, right, reach);
+        outlook.run(YEAR, NONE);
         for (int other = 0; other < river.rights; other++) {
             if (other != right && outlook.tookOf(other) < unchanged[other]) {
                 return true;
@@ -517,7 +515,11 @@ public final class RiverCall {
         if (k == NONE) {
             return today.queued;
         }
-        return k < today.queued ? today.queue[k] : NOTHING;
+        return k < today.queued ? nameOf(today.queue[k]) : NOTHING;
+    }
+
+    private static int nameOf(int taker) {
+        return taker < FIRST_STORE ? taker : STORE + taker - FIRST_STORE;
     }
 
     public int runs(int n, int what) {
@@ -927,20 +929,26 @@ public final class RiverCall {
         }
     }
 
-    /** One DAY of a State: who takes what, by (1), (2) and (3). */
+    /**
+     * One DAY of a State: who takes what, by (1), (2) and (3).
+     * TAKERS are told by one number here: RIGHTS by theirs, STORES from FIRST_STORE on.
+     */
     private static final class Day {
         River river;
         State state;
-        /** RIGHTS and STORES, the oldest first. */
+        /** TAKERS, the oldest first. */
         final int[] queue = new int[MAX_TAKERS];
         int queued;
+        /** The REACH of a TAKER. */
+        final int[] place = new int[MAX_TAKERS];
         /** What has come to a REACH and is not taken. */
         final int[] there = new int[MAX_REACHES];
-        final int[] wants = new int[MAX_RIGHTS];
-        final int[] byAge = new int[MAX_RIGHTS];
+        /** What runs out of a REACH. */
+        final int[] out = new int[MAX_REACHES];
+        final int[] wants = new int[MAX_TAKERS];
+        final int[] byAge = new int[MAX_TAKERS];
         final int[] byOrder = new int[MAX_RIGHTS];
         final int[] byBarter = new int[MAX_RIGHTS];
-        final int[] fills = new int[MAX_STORES];
         final int[] letByOrder = new int[MAX_STORES];
         final int[] letByBarter = new int[MAX_STORES];
         int moreAt = NONE;
@@ -951,104 +959,49 @@ public final class RiverCall {
             this.state = state;
         }
 
-        /** To be called again when AGES have changed. */
+        /** To be called again when AGES or REACHES of RIGHTS have changed. */
         void open(River river, State state) {
             this.river = river;
             this.state = state;
             queued = 0;
             for (int i = 0; i < river.rights; i++) {
+                place[i] = state.at[i];
                 enqueue(i);
             }
             for (int i = 0; i < river.stores; i++) {
-                enqueue(STORE + i);
+                place[FIRST_STORE + i] = river.storeAt[i];
+                enqueue(FIRST_STORE + i);
             }
         }
 
         private void enqueue(int taker) {
-            int place = queued;
-            while (place > 0 && ageOf(queue[place - 1]) > ageOf(taker)) {
-                queue[place] = queue[place - 1];
-                place--;
+            int k = queued;
+            while (k > 0 && ageOf(queue[k - 1]) > ageOf(taker)) {
+                queue[k] = queue[k - 1];
+                k--;
             }
-            queue[place] = taker;
+            queue[k] = taker;
             queued++;
         }
 
         private int ageOf(int taker) {
-            return taker >= STORE ? river.storeAge[taker - STORE] : state.age[taker];
+            return taker < FIRST_STORE ? state.age[taker] : river.storeAge[taker - FIRST_STORE];
         }
 
         void work() {
+            bringWater();
             takeByAge(NONE);
             takeByOrders();
             takeByBarters();
         }
 
-        /** (1), as if one taker (NONE: nobody) were not there. */
-        void takeByAge(int absent) {
-            bringWater();
-            for (int k = 0; k < queued; k++) {
-                if (queue[k] != absent) {
-                    takeInTurn(queue[k]);
-                }
-            }
-        }
-
-        /** (1), as if nobody but one RIGHT were there. */
-        void takeAlone(int right) {
-            bringWater();
-            takeInTurn(right);
-        }
-
-        private void takeInTurn(int taker) {
-            if (taker >= STORE) {
-                int store = taker - STORE;
-                int room = river.size[store] - state.content[store];
-                fills[store] = takeMost(river.storeAt[store], Math.min(river.storeRate[store], room));
-            } else {
-                byAge[taker] = takeMost(state.at[taker], wants[taker]);
-            }
-        }
-
-        private void takeByOrders() {
-            for (int store = 0; store < river.stores; store++) {
-                int right = state.orderRight[store];
-                if (right >= 0 && river.runsTo(river.storeAt[store], state.at[right])) {
-                    int let = Math.min(state.orderAmount[store], state.content[store]);
-                    letByOrder[store] = let;
-                    change(river.storeAt[store], let);
-                    byOrder[right] += takeMost(state.at[right], Math.min(let, missing(right)));
-                }
-            }
-        }
-
-        private void takeByBarters() {
-            for (int right = 0; right < river.rights; right++) {
-                int store = state.barter[right];
-                if (store >= 0 && river.runsTo(state.at[right], river.storeAt[store])) {
-                    int rest = state.content[store] - letByOrder[store] - letByBarter[store];
-                    int here = state.at[right];
-                    int below = river.storeAt[store];
-                    int takes = mostThatCanBe(here, Math.min(rest, missing(right)), below);
-                    letByBarter[store] += takes;
-                    byBarter[right] = takes;
-                    change(below, takes);
-                    change(here, -takes);
-                }
-            }
-        }
-
-        private void bringWater() {
+        /** Nobody takes anything yet. */
+        void bringWater() {
             for (int i = 0; i < river.rights; i++) {
-                wants[i] = wantOf(i);
-                byAge[i] = 0;
-                byOrder[i] = 0;
-                byBarter[i] = 0;
+                wants[i] = wantOfRight(i);
             }
             for (int i = 0; i < river.stores; i++) {
-                fills[i] = 0;
-                letByOrder[i] = 0;
-                letByBarter[i] = 0;
+                wants[FIRST_STORE + i] = Math.min(river.storeRate[i], river.size[i] - state.content[i]);
             }
             for (int r = 0; r < river.reaches; r++) {
                 there[r] = inflowOf(r) + backOf(r);
@@ -1056,16 +1009,17 @@ public final class RiverCall {
                     there[r] += more;
                 }
             }
-            // A REACH runs DOWN to one told ahead, so all above it are behind it here.
+            // A REACH runs DOWN to one told ahead, so all above it come first here.
             for (int r = river.reaches - 1; r >= 0; r--) {
+                out[r] = Math.max(0, there[r] - river.sink[r]);
                 int next = river.down[r];
                 if (next >= 0) {
-                    there[next] += runsOut(r);
+                    there[next] += out[r];
                 }
             }
         }
 
-        private int wantOf(int right) {
+        private int wantOfRight(int right) {
             if (state.day < river.from[right] || state.day > river.to[right]) {
                 return 0;
             }
@@ -1082,33 +1036,75 @@ public final class RiverCall {
             return state.onWay[state.wayRow(0) + reach];
         }
 
-        int runsOut(int reach) {
-            return Math.max(0, there[reach] - river.sink[reach]);
+        /** (1), behind bringWater(), as if one TAKER (NONE: nobody) were not there. */
+        void takeByAge(int absent) {
+            for (int k = 0; k < queued; k++) {
+                int taker = queue[k];
+                byAge[taker] = taker == absent ? 0 : takeMost(place[taker], wants[taker], NONE);
+            }
         }
 
-        private int takeMost(int reach, int wish) {
-            int most = mostThatCanBe(reach, wish, NONE);
-            change(reach, -most);
-            return most;
+        /** What a RIGHT would take in (1) if nobody else were there. */
+        int mostAlone(int right) {
+            bringWater();
+            return takeMost(place[right], wants[right], NONE);
+        }
+
+        private void takeByOrders() {
+            for (int i = 0; i < river.rights; i++) {
+                byOrder[i] = 0;
+                byBarter[i] = 0;
+            }
+            for (int store = 0; store < river.stores; store++) {
+                int right = state.orderRight[store];
+                letByOrder[store] = 0;
+                if (right >= 0 && river.runsTo(river.storeAt[store], place[right])) {
+                    int let = Math.min(state.orderAmount[store], state.content[store]);
+                    letByOrder[store] = let;
+                    change(river.storeAt[store], let);
+                    byOrder[right] += takeMost(place[right], Math.min(let, missing(right)), NONE);
+                }
+            }
+        }
+
+        private void takeByBarters() {
+            for (int i = 0; i < river.stores; i++) {
+                letByBarter[i] = 0;
+            }
+            for (int right = 0; right < river.rights; right++) {
+                int store = state.barter[right];
+                if (store >= 0 && river.runsTo(place[right], river.storeAt[store])) {
+                    int rest = state.content[store] - letByOrder[store] - letByBarter[store];
+                    int below = river.storeAt[store];
+                    int takes = takeMost(place[right], Math.min(rest, missing(right)), below);
+                    // The STORE makes good to those below what is taken above.
+                    change(below, takes);
+                    letByBarter[store] += takes;
+                    byBarter[right] = takes;
+                }
+            }
         }
 
         /**
-         * The most, up to a wish, that can be taken at a REACH if nobody from it down to ahead of
-         * another one (NONE: to the MOUTH) is to lack what is taken there.
+         * Takes the most, up to a wish, that leaves nobody without what is taken, from a REACH down
+         * to ahead of another one (NONE: to the MOUTH).
          */
-        private int mostThatCanBe(int reach, int wish, int before) {
+        private int takeMost(int reach, int wish, int ahead) {
             int most = wish;
             int lack = wish;
             int r = reach;
-            for (int i = 0; i < MAX_REACHES && r >= 0 && r != before && lack > 0; i++) {
+            for (int i = 0; i < MAX_REACHES && r >= 0 && r != ahead && lack > 0; i++) {
                 if (lack > there[r]) {
                     most = there[r];
                     lack = most;
                 }
                 // What a SINK would swallow is lacking to nobody below.
-                lack = Math.min(lack, runsOut(r));
+                if (lack > out[r]) {
+                    lack = out[r];
+                }
                 r = river.down[r];
             }
+            change(reach, -most);
             return most;
         }
 
@@ -1116,9 +1112,11 @@ public final class RiverCall {
             int r = reach;
             int step = by;
             for (int i = 0; i < MAX_REACHES && r >= 0 && step != 0; i++) {
-                int out = runsOut(r);
+                int before = out[r];
                 there[r] += step;
-                step = runsOut(r) - out;
+                int spare = there[r] - river.sink[r];
+                out[r] = spare > 0 ? spare : 0;
+                step = out[r] - before;
                 r = river.down[r];
             }
         }
@@ -1146,21 +1144,21 @@ public final class RiverCall {
 
         int takenAt(int reach) {
             int sum = 0;
-            for (int i = 0; i < river.rights; i++) {
-                if (state.at[i] == reach) {
-                    sum += takenBy(i);
-                }
-            }
-            for (int i = 0; i < river.stores; i++) {
-                if (river.storeAt[i] == reach) {
-                    sum += fills[i];
+            for (int k = 0; k < queued; k++) {
+                int taker = queue[k];
+                if (place[taker] == reach) {
+                    sum += taker < FIRST_STORE ? takenBy(taker) : byAge[taker];
                 }
             }
             return sum;
         }
 
+        int filledInto(int store) {
+            return byAge[FIRST_STORE + store];
+        }
+
         int contentBehind(int store) {
-            return state.content[store] + fills[store] - letByOrder[store] - letByBarter[store];
+            return state.content[store] + filledInto(store) - letByOrder[store] - letByBarter[store];
         }
 
         /** The DAY that work() has found goes by. */
@@ -1183,12 +1181,11 @@ public final class RiverCall {
         private void passReaches() {
             int row = state.wayRow(0);
             for (int r = 0; r < river.reaches; r++) {
-                int out = runsOut(r);
                 state.sums[INFLOWS] += inflowOf(r);
                 state.sums[RUN_BACK] += state.onWay[row + r];
-                state.sums[SINKS] += there[r] - out;
+                state.sums[SINKS] += there[r] - out[r];
                 if (river.down[r] < 0) {
-                    state.sums[MOUTH] += out;
+                    state.sums[MOUTH] += out[r];
                 }
                 // The row is free now for what comes in MAX_DELAY DAYS.
                 state.onWay[row + r] = 0;
@@ -1236,6 +1233,11 @@ public final class RiverCall {
             this.start = start;
             state.copyOf(start);
             comeMore(NONE, 0);
+        }
+
+        void beginMoved(River river, State start, int right, int reach) {
+            begin(river, start);
+            state.at[right] = reach;
         }
 
         void comeMore(int reach, int more) {
