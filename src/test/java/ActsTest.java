@@ -218,6 +218,9 @@ public final class ActsTest {
         DUE.is("all is as it was", whole(x), before);
         DUE.is("nothing can be undone", x.undo(), -1);
         DUE.is("no acts", x.count(5), 0);
+        x.wet(6);
+        DUE.is("back with an act", x.back(1), 9);
+        DUE.is("it cannot be undone", x.undo(), -1);
         DUE.is("the tape stays", x.count(6), 20);
         DUE.is("shelves stay", x.count(7), 3);
         x.wet(5);

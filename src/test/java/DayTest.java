@@ -18,6 +18,9 @@ public final class DayTest {
         byAges();
         above();
         thirst();
+        longest();
+        most();
+        least();
         DUE.end();
     }
 
@@ -305,6 +308,64 @@ public final class DayTest {
         RiverCall x = Due.told("reach mouth 1 1 1 1;reach 0 1 1 1 1;reach 0 1 1 1 1;reach 2 1 1 1 1;reach mouth 1 1 1 1");
         row("above", new long[] {x.above(0), x.above(1), x.above(2), x.above(3), x.above(4)}, 15, 2, 12, 8, 16);
         row("no above", new long[] {x.above(5), x.above(-1)}, -1, -1);
+    }
+
+    /** Twelve REACHES, each running DOWN to the one ahead. */
+    private static void longest() {
+        StringBuilder text = new StringBuilder("reach mouth 0 0 0 0sink1");
+        for (int i = 1; i < 12; i++) {
+            text.append(";reach ").append(i - 1).append(i == 11 ? " 20 20 20 20" : " 0 0 0 0").append("sink1");
+        }
+        RiverCall x = Due.told(text + ";right 0 6 0 359 age 1;right 11 9 0 359 age 2;store 11 9 9 age 3");
+        DUE.is("to the mouth", x.reach(11, 3), 12);
+        DUE.is("above", x.above(0), 4095);
+        row("the one at the mouth", takes(x, 0), 6, 6, 0, 0, 6);
+        row("the one on top, 3 to spare", takes(x, 1), 3, 3, 0, 0, 9);
+        DUE.is("out of the last", x.flow(0, 4), 0);
+        DUE.is("coming to the last", x.flow(0, 2), 6);
+        DUE.is("caller", x.caller(1), 0);
+        DUE.is("thirst", x.thirst(11), 1);
+        x.wet(0);
+        DUE.is("thirst of all", x.thirst(11), 12);
+        DUE.is("order", x.order(0, 0, 1), 1);
+        DUE.is("none in it", x.takes(0, 2), 0);
+    }
+
+    /** Fourteen RIGHTS and four STORES. */
+    private static void most() {
+        StringBuilder text = new StringBuilder("reach mouth 20 20 20 20");
+        for (int i = 0; i < 14; i++) {
+            text.append(";right 0 2 0 359age").append(30 - i);
+        }
+        for (int i = 0; i < 4; i++) {
+            text.append(";store 0 9 1age").append(i);
+        }
+        RiverCall x = Due.told(text.toString());
+        DUE.is("all", x.aged(-1), 18);
+        row("oldest", new long[] {x.aged(0), x.aged(3), x.aged(4), x.aged(17)}, 100, 103, 13, 0);
+        DUE.is("calls", x.calls(0), 63);
+        DUE.is("futile", x.calls(1), 0);
+        DUE.is("the next one has what the oldest leaves", x.caller(5), 100);
+        DUE.is("what one leaves does not come to this one", x.caller(4), -2);
+        DUE.is("shut", x.shut(0), 2);
+        row("flow", flows(x, 0), 20, 0, 20, 20, 0);
+        x.days(1);
+        DUE.is("in stores", x.gone(5), 4);
+        DUE.is("runs", x.runs(9, 2), 8 * 16 + 20);
+        DUE.is("movable", x.movable(13), 0);
+        DUE.is("share", x.share(-1, 1), 16000 / 28);
+        DUE.is("worst", x.worst(1), 0);
+    }
+
+    private static void least() {
+        RiverCall x = Due.told("reach mouth 9 9 9 9;right 0 9 0 359 age 0 vol 1 back 0 100 30;right 0 9 0 359 age 2");
+        row("volume of 1", new long[] {x.right(0, 5), x.right(0, 6), x.takes(0, 4), x.takes(1, 0)}, 1, 1, 1, 8);
+        x.days(1);
+        row("nothing left", new long[] {x.right(0, 6), x.takes(0, 4), x.calls(0)}, 0, 0, 0);
+        DUE.is("on its way", x.gone(6), 1);
+        RiverCall y = Due.told("reach mouth 0 0 0 0;reach 0 1 1 1 1 sink 1;right 1 1 0 359 age 2;right 0 1 0 359 age 1");
+        row("futile on the first", new long[] {y.futile(1, 0), y.calls(1)}, 1, 2);
+        DUE.is("nothing of one", y.share(1, 1), 0);
     }
 
     private static void thirst() {

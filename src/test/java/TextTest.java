@@ -9,6 +9,7 @@ public final class TextTest {
         telling();
         ranges();
         tooMany();
+        wholeTape();
         leavesAlone();
         letters();
         DUE.end();
@@ -206,6 +207,23 @@ public final class TextTest {
         fault("wet 1;wet 2", 6, 3);
         fault("wet 1;wet", 6, 3);
         fault("wet 1;wet 1;wet", 6, 3);
+    }
+
+    /** Texts of 400 bytes: what stands at the end of the TAPE. */
+    private static void wholeTape() {
+        String blanks = " ".repeat(400);
+        fine(blanks, 0);
+        fine(blanks.substring(5) + "wet 3", 0);
+        fine("wet 3" + blanks.substring(5), 0);
+        fault(blanks.substring(3) + "wet", 400, 1);
+        fault(blanks.substring(4) + "wet ", 400, 1);
+        fault(blanks.substring(6) + "wet 3;", 400, 1);
+        fault(blanks.substring(1) + "x", 399, 1);
+        fault(";".repeat(400), 0, 1);
+        fault("9".repeat(400), 0, 1);
+        fault("wet " + "9".repeat(396), 4, 2);
+        fine("wet " + "0".repeat(396), 0);
+        fault("x".repeat(400), 0, 1);
     }
 
     private static void leavesAlone() {
