@@ -159,7 +159,7 @@ public final class ActsTest {
     private static void undoneWhole() {
         RiverCall x = Due.told(Due.CALLED + ";right 0 9 0 359 age 3 vol 500;store 0 40 5 age 2");
         x.days(7);
-        String before = whole(x);
+        String before = Due.whole(x);
         x.days(20);
         x.wet(300);
         x.demand(2, 4);
@@ -170,30 +170,8 @@ public final class ActsTest {
         for (int i = 0; i < 7; i++) {
             x.undo();
         }
-        DUE.is("all is as it was", whole(x), before);
+        DUE.is("all is as it was", Due.whole(x), before);
         DUE.is("one more act", x.count(5), 1);
-    }
-
-    /** All that can be told of an object with three RIGHTS, two STORES and two REACHES, but for its ACTS. */
-    private static String whole(RiverCall x) {
-        StringBuilder all = new StringBuilder(Due.letters(x));
-        for (int i = 0; i < 3; i++) {
-            for (int what = 0; what <= 12; what++) {
-                all.append(' ').append(x.right(i, what));
-            }
-        }
-        for (int i = 0; i < 2; i++) {
-            for (int what = 0; what <= 6; what++) {
-                all.append(' ').append(x.store(i, what));
-            }
-            for (int days = 0; days < 30; days++) {
-                all.append(' ').append(x.coming(i, days));
-            }
-        }
-        for (int what = 0; what <= 7; what++) {
-            all.append(' ').append(x.gone(what));
-        }
-        return all.append(' ').append(x.count(3)).toString();
     }
 
     private static void shelves() {
@@ -208,14 +186,14 @@ public final class ActsTest {
         DUE.is("keep", x.keep(1), 9);
         DUE.is("kept", x.count(7), 2);
         DUE.is("keep is no act", x.count(5), 2);
-        String before = whole(x);
+        String before = Due.whole(x);
         x.days(30);
         DUE.is("keep 0", x.keep(0), 39);
         Due.tell(x, "wet 3");
         DUE.is("both", x.count(7), 3);
         x.feed(1, 1, 1, 1, 1);
         DUE.is("back", x.back(1), 9);
-        DUE.is("all is as it was", whole(x), before);
+        DUE.is("all is as it was", Due.whole(x), before);
         DUE.is("nothing can be undone", x.undo(), -1);
         DUE.is("no acts", x.count(5), 0);
         x.wet(6);
@@ -225,7 +203,7 @@ public final class ActsTest {
         DUE.is("shelves stay", x.count(7), 3);
         x.wet(5);
         DUE.is("back again", x.back(1), 9);
-        DUE.is("all is as it was again", whole(x), before);
+        DUE.is("all is as it was again", Due.whole(x), before);
         DUE.is("the other", x.back(0), 39);
         x.keep(1);
         DUE.is("kept anew", x.back(1), 39);

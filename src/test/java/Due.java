@@ -60,6 +60,54 @@ final class Due {
         return x;
     }
 
+    /** So many PARTS, # being the number of each. */
+    static String many(String part, int n) {
+        StringBuilder text = new StringBuilder();
+        for (int i = 0; i < n; i++) {
+            text.append(i == 0 ? "" : ";").append(part.replace("#", "" + i));
+        }
+        return text.toString();
+    }
+
+    /** Any number of DAYS go by: the DAY it is then. */
+    static int pass(RiverCall x, int days) {
+        int day = x.count(3);
+        for (int left = days; left > 0; left -= 60) {
+            day = x.days(Math.min(left, 60));
+        }
+        return day;
+    }
+
+    /** All that can be told of what is so in an object, but for TAPE, SHELVES and ACTS that can be UNDONE. */
+    static String whole(RiverCall x) {
+        StringBuilder all = new StringBuilder();
+        for (int what : new int[] {0, 1, 2, 3, 4, 8, 9}) {
+            all.append(' ').append(x.count(what));
+        }
+        for (int i = 0; i < x.count(1); i++) {
+            for (int what = 0; what <= 12; what++) {
+                all.append(' ').append(x.right(i, what));
+            }
+        }
+        for (int i = 0; i < x.count(2); i++) {
+            for (int what = 0; what <= 6; what++) {
+                all.append(' ').append(x.store(i, what));
+            }
+        }
+        for (int i = 0; i < x.count(0); i++) {
+            for (int what : new int[] {0, 1, 10, 11, 12, 13}) {
+                all.append(' ').append(x.reach(i, what));
+            }
+            for (int days = 0; days < 30; days++) {
+                all.append(' ').append(x.coming(i, days));
+            }
+        }
+        for (int what = 0; what <= 7; what++) {
+            all.append(' ').append(x.gone(what));
+        }
+        return all.toString();
+    }
+
     static String letters(RiverCall x) {
         StringBuilder text = new StringBuilder();
         int length = x.letter(RiverCall.NONE);

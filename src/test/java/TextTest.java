@@ -187,23 +187,15 @@ public final class TextTest {
         range("wet ?", 0, 400);
     }
 
-    private static String many(String part, int n) {
-        StringBuilder text = new StringBuilder();
-        for (int i = 0; i < n; i++) {
-            text.append(i == 0 ? "" : ";").append(part.replace("#", "" + i));
-        }
-        return text.toString();
-    }
-
     private static void tooMany() {
         String reach = "reach mouth 1 1 1 1";
-        fine(many(reach, 12), 0);
-        fault(many(reach, 13), 12 * 20, 3);
-        fault(many(reach, 12) + ";reachx", 12 * 20, 1);
-        fine(reach + ";" + many("right 0 1 0 0 age #", 14), 14);
-        fault(reach + ";" + many("right 0 1 0 0 age #", 14) + ";right", 20 + 14 * 20 + 4, 3);
-        fine(reach + ";" + many("store 0 1 1 age #", 4), 0);
-        fault(reach + ";" + many("store 0 1 1 age #", 5), 20 + 4 * 18, 3);
+        fine(Due.many(reach, 12), 0);
+        fault(Due.many(reach, 13), 12 * 20, 3);
+        fault(Due.many(reach, 12) + ";reachx", 12 * 20, 1);
+        fine(reach + ";" + Due.many("right 0 1 0 0 age #", 14), 14);
+        fault(reach + ";" + Due.many("right 0 1 0 0 age #", 14) + ";right", 20 + 14 * 20 + 4, 3);
+        fine(reach + ";" + Due.many("store 0 1 1 age #", 4), 0);
+        fault(reach + ";" + Due.many("store 0 1 1 age #", 5), 20 + 4 * 18, 3);
         fault("wet 1;wet 2", 6, 3);
         fault("wet 1;wet", 6, 3);
         fault("wet 1;wet 1;wet", 6, 3);
