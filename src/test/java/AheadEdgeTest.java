@@ -126,6 +126,10 @@ public final class AheadEdgeTest {
         EDGE.are("as move() answers", "-3 -2 1", x.move(0, 11), x.move(0, 0), x.move(1, 0));
         EDGE.are("from there", "4094", x.movable(1));
         EDGE.is("one reach", Due.told("reach mouth 5 5 5 5;right 0 5 0 359 age 1").movable(0), 0);
+        RiverCall y = Due.told("reach mouth 5 5 5 5;reach mouth 5 5 5 5;right 0 5 0 359 age 2;right 1 5 0 359 age 1");
+        EDGE.are("the first one would be hurt", "0 -3 1800", y.movable(1), y.move(1, 0), y.hurt(1, 0, 0));
+        RiverCall most = Due.told("reach mouth 99 99 99 99;reach mouth 99 99 99 99;" + Due.many("right 0 5 0 359 age #", 14));
+        EDGE.are("nobody of fourteen", "2 2", most.movable(0), most.movable(13));
         EDGE.are("none", "-1 -1 -1 -1 -1", x.movable(2), x.movable(-1), x.movable(100), x.movable(MOST), x.movable(LEAST));
         EDGE.are("nothing moved", "0 0 1", x.right(0, 0), x.right(1, 0), x.count(5));
     }
@@ -146,6 +150,8 @@ public final class AheadEdgeTest {
         EDGE.are("whats", NONES, x.runs(1, 4), x.runs(1, -1), x.runs(1, MOST), x.runs(1, LEAST));
         RiverCall y = Due.told(Due.many("reach mouth 9999 9999 9999 9999", 12) + ";wet 400");
         EDGE.is("the most", y.runs(360, 0), 12 * 39996 * 360);
+        RiverCall z = Due.told("reach mouth 70 69 0 0;" + Due.many("right 0 5 0 359 age #", 14));
+        EDGE.are("none of fourteen calls, then the last", "0 1", z.runs(90, 3), z.runs(91, 3));
     }
 
     private static void dry() {

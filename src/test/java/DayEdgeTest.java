@@ -86,6 +86,16 @@ public final class DayEdgeTest {
         RiverCall y = Due.told("reach mouth 0 0 0 0;reach 0 0 0 0 0 sink 2;reach 1 9 9 9 9 sink 1;right 0 3 0 0 age 1;"
             + "right 2 9 0 0 age 2;right 1 9 0 0 age 3");
         EDGE.are("through two sinks", "3 3 0", y.takes(0, 0), y.takes(1, 0), y.takes(2, 0));
+        RiverCall chain = Due.told(Due.chain("reach mouth 0 0 0 0", " 1 1 1 1") + ";right 0 5 0 359 age 1;right 11 1 0 359 age 9;"
+            + "right 0 9 0 359 age 3;store 11 1 1 age 8");
+        EDGE.are("through twelve: all comes to the oldest ones", "5 0 6 0",
+            chain.takes(0, 0), chain.takes(1, 0), chain.takes(2, 0), chain.stored(0, 0));
+        chain.demand(2, 5);
+        EDGE.are("one is to spare, which the store takes", "5 0 5 1 0",
+            chain.takes(0, 0), chain.takes(1, 0), chain.takes(2, 0), chain.stored(0, 0), chain.flow(0, 4));
+        chain.days(1);
+        EDGE.are("and the next day the last one", "5 1 5 0 0",
+            chain.takes(0, 0), chain.takes(1, 0), chain.takes(2, 0), chain.stored(0, 0), chain.flow(0, 4));
         // 3 come to the one below whatever is done above: of 9 all can be taken.
         RiverCall z = Due.told("reach mouth 3 3 3 3;reach 0 9 9 9 9;right 0 3 0 0 age 1;right 1 9 0 0 age 2");
         EDGE.are("what comes from elsewhere", "3 9", z.takes(0, 0), z.takes(1, 0));
@@ -134,6 +144,9 @@ public final class DayEdgeTest {
         EDGE.are("lacks 1", "2 1 9", y.days(1), y.stored(0, 0), y.stored(0, 3));
         EDGE.are("is full", "3 0 9", y.days(1), y.stored(0, 0), y.stored(0, 3));
         EDGE.are("stays full", "4 0 9", y.days(1), y.stored(0, 0), y.stored(0, 3));
+        RiverCall w = Due.told("reach mouth 9 9 9 9;reach mouth 8 8 8 8;reach mouth 7 7 7 7;store 0 99 99 age 1;store 1 99 99 age 2;"
+            + "store 2 99 99 age 3");
+        EDGE.are("each at its reach", "9 8 7", w.stored(0, 0), w.stored(1, 0), w.stored(2, 0));
         RiverCall z = Due.told("reach mouth 99 99 99 99;store 0 4 4 age 1;store 0 3 4 age 2");
         EDGE.are("lacks its rate, less", "4 3", z.stored(0, 0), z.stored(1, 0));
     }

@@ -69,6 +69,15 @@ final class Due {
         return text.toString();
     }
 
+    /** Twelve REACHES, each running DOWN to the one ahead: the first as told, then the others behind their DOWN. */
+    static String chain(String first, String others) {
+        StringBuilder text = new StringBuilder(first);
+        for (int i = 0; i < 11; i++) {
+            text.append(";reach ").append(i).append(others);
+        }
+        return text.toString();
+    }
+
     /** Any number of DAYS go by: the DAY it is then. */
     static int pass(RiverCall x, int days) {
         int day = x.count(3);

@@ -54,11 +54,7 @@ public final class LookEdgeTest {
         EDGE.are("how many", "2 1 0 0 0", x.reach(0, 2), x.reach(1, 2), x.reach(2, 2), x.reach(3, 2), x.reach(4, 2));
         says(15, "3: how many REACHES there are from it to the MOUTH (itself, too)");
         EDGE.are("to the mouth", "1 2 2 3 1", x.reach(0, 3), x.reach(1, 3), x.reach(2, 3), x.reach(3, 3), x.reach(4, 3));
-        StringBuilder chain = new StringBuilder("reach mouth 1 1 1 1");
-        for (int i = 0; i < 11; i++) {
-            chain.append(";reach ").append(i).append(" 1 1 1 1");
-        }
-        RiverCall y = Due.told(chain.toString());
+        RiverCall y = Due.told(Due.chain("reach mouth 1 1 1 1", " 1 1 1 1"));
         EDGE.are("of twelve", "12 11 1", y.reach(11, 3), y.reach(10, 3), y.reach(0, 3));
         EDGE.are("the last of twelve", "10 0 1", y.reach(11, 0), y.reach(11, 2), y.reach(11, 13));
         says(15, "10 to 13: INFLOW in QUARTER 0 to 3. NONE without these.");
@@ -215,6 +211,8 @@ public final class LookEdgeTest {
         EDGE.are("on the last of them", "24 24", y.calls(0), y.calls(1));
         y.demand(2, 0);
         EDGE.are("on none", "24 0", y.calls(0), y.calls(1));
+        y.demand(0, 1);
+        EDGE.are("on the first of them", "24 24", y.calls(0), y.calls(1));
         EDGE.are("others", "-1 -1 -1 -1", y.calls(2), y.calls(-1), y.calls(MOST), y.calls(LEAST));
     }
 
@@ -261,6 +259,8 @@ public final class LookEdgeTest {
             x.gone(0), x.gone(1), x.gone(2), x.gone(3), x.gone(4), x.gone(5), x.gone(6), x.gone(7));
         x.undo();
         EDGE.are("undone", "50 2", x.gone(0), x.gone(7));
+        RiverCall four = Due.told("reach mouth 9 9 9 9;" + Due.many("store 0 5 2 age #", 4));
+        EDGE.are("four stores", "1 8 2", four.days(1), four.gone(5), four.store(3, 4));
         says(32, "Long.MIN_VALUE for others.");
         long no = Long.MIN_VALUE;
         EDGE.are("others", no + " " + no + " " + no + " " + no, x.gone(8), x.gone(-1), x.gone(MOST), x.gone(LEAST));
@@ -297,6 +297,7 @@ public final class LookEdgeTest {
         says(34, "REACHES, as bits, from which the water runs to one (itself, too); NONE without it.");
         RiverCall x = Due.told("reach mouth 1 1 1 1;reach 0 1 1 1 1;reach 1 1 1 1 1;reach 0 1 1 1 1;" + Due.many("reach mouth 1 1 1 1", 8));
         EDGE.are("bits", "15 6 4 8 16 2048", x.above(0), x.above(1), x.above(2), x.above(3), x.above(4), x.above(11));
+        EDGE.is("twelve", Due.told(Due.chain("reach mouth 1 1 1 1", " 1 1 1 1")).above(0), 4095);
         EDGE.are("none", "-1 -1 -1 -1", x.above(12), x.above(-1), x.above(MOST), x.above(LEAST));
     }
 
@@ -312,6 +313,8 @@ public final class LookEdgeTest {
             + "reach 2 0 0 0 0 sink 1;reach mouth 0 0 0 0");
         EDGE.are("9999, more than that, 9998, 9999 together, no sink", "9999 9999 9998 9999 0",
             y.thirst(0), y.thirst(1), y.thirst(2), y.thirst(3), y.thirst(4));
+        RiverCall chain = Due.told(Due.chain("reach mouth 0 0 0 0 sink 1", " 0 0 0 0 sink 1"));
+        EDGE.are("of twelve, of one", "12 1", chain.thirst(11), chain.thirst(0));
         RiverCall z = Due.told("reach mouth 9 9 9 9 sink 8;right 0 3 0 359 age 1;right 0 9 1 359 age 2");
         EDGE.is("of what is not taken", z.thirst(0), 2);
         z.days(1);

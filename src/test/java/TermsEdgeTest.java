@@ -132,6 +132,7 @@ public final class TermsEdgeTest {
         EDGE.is("12 hundredths of 9", onWay("back 0 12 1", 0), 101);
         EDGE.is("99 hundredths of 9", onWay("back 0 99 1", 0), 808);
         EDGE.is("all of 9", onWay("back 0 100 1", 0), 909);
+        EDGE.is("all of 9, in 30 days", onWay("back 0 100 30", 0), 900);
         RiverCall most = Due.told("reach mouth 9999 0 0 0;right 0 9999 0 359 age 1 back 0 99 1");
         most.days(1);
         EDGE.is("99 hundredths of 9999", most.gone(6), 9899);
@@ -310,6 +311,7 @@ public final class TermsEdgeTest {
         EDGE.fault(REACH + ";right 0 5 0 9 age 1 back 0 3 4 back 0 3 4", 20 + 31, 1);
         EDGE.fault(REACH + ";right 0 5 0 9 age 1 sink 2", 20 + 20, 1);
         EDGE.fault(REACH + ";right mouth 5 0 9 age 1", 20 + 6, 1);
+        EDGE.fault(REACH + ";right 0 5 0 9 1", 20 + 14, 1);
     }
 
     private static void partsOfStoreAndWet() {
@@ -317,6 +319,7 @@ public final class TermsEdgeTest {
         spoil(REACH + ";", "store 0 5 6 age 7", 6);
         EDGE.fault(REACH + ";store 0 5 6 age 7 vol 8", 20 + 18, 1);
         EDGE.fault(REACH + ";store mouth 5 6 age 7", 20 + 6, 1);
+        EDGE.fault(REACH + ";store 0 5 6 7", 20 + 12, 1);
         says("wet NUMBER (once at most)");
         spoil("", "wet 5", 2);
         spoil(REACH + ";", "wet 5", 2);

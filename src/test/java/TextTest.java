@@ -7,7 +7,6 @@ public final class TextTest {
         feeding();
         ending();
         telling();
-        ranges();
         tooMany();
         wholeTape();
         leavesAlone();
@@ -147,44 +146,6 @@ public final class TextTest {
         fault("wet 401 x", 4, 2);
         fault("wet 99999999999999999999", 4, 2);
         fault("wet 4294967296", 4, 2);
-    }
-
-    /** A NUMBER where ? stands: from low to high, and no other. */
-    private static void range(String text, int low, int high) {
-        int place = text.indexOf('?');
-        for (int number : new int[] {low, high}) {
-            RiverCall x = new RiverCall();
-            int answer = Due.tell(x, text.replace("?", "" + number));
-            DUE.is(number + " in " + text, answer < 0 ? answer : 0, 0);
-        }
-        if (low > 0) {
-            fault(text.replace("?", "" + (low - 1)), place, 2);
-        }
-        fault(text.replace("?", "" + (high + 1)), place, 2);
-    }
-
-    private static void ranges() {
-        String river = "reach mouth 1 1 1 1;";
-        range("reach mouth ? 1 1 1", 0, 9999);
-        range("reach mouth 1 ? 1 1", 0, 9999);
-        range("reach mouth 1 1 ? 1", 0, 9999);
-        range("reach mouth 1 1 1 ?", 0, 9999);
-        range("reach mouth 1 1 1 1 sink ?", 0, 9999);
-        range(river + "reach 0 1 1 1 1;reach ? 1 1 1 1", 0, 1);
-        range(river + "reach 0 1 1 1 1;right ? 1 1 1 age 1", 0, 1);
-        range(river + "right 0 ? 1 1 age 1", 1, 9999);
-        range(river + "right 0 1 ? 359 age 1", 0, 359);
-        range(river + "right 0 1 7 ? age 1", 7, 359);
-        range(river + "right 0 1 0 0 age ?", 0, 9999);
-        range(river + "right 0 1 0 0 age 1 vol ?", 1, 999999);
-        range(river + "right 0 1 0 0 age 1 back ? 1 1", 0, 0);
-        range(river + "right 0 1 0 0 age 1 back 0 ? 1", 0, 100);
-        range(river + "right 0 1 0 0 age 1 vol 1 back 0 1 ?", 1, 30);
-        range(river + "store ? 1 1 age 1", 0, 0);
-        range(river + "store 0 ? 1 age 1", 1, 999999);
-        range(river + "store 0 1 ? age 1", 1, 9999);
-        range(river + "store 0 1 1 age ?", 0, 9999);
-        range("wet ?", 0, 400);
     }
 
     private static void tooMany() {

@@ -55,15 +55,16 @@ public final class TwinTest {
             ages.add(i);
         }
         Collections.shuffle(ages, random);
-        int reaches = from(1, 6);
+        boolean crowded = oneIn(3);
+        int reaches = crowded ? from(4, 9) : from(1, 6);
         for (int i = 0; i < reaches; i++) {
             addReach(i);
         }
-        int rights = upTo(5);
+        int rights = crowded ? from(3, 8) : upTo(5);
         for (int i = 0; i < rights; i++) {
             addRight(ages.get(i));
         }
-        int stores = upTo(2);
+        int stores = crowded ? upTo(4) : upTo(2);
         for (int i = 0; i < stores; i++) {
             addStore(ages.get(20 + i));
         }
