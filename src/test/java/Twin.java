@@ -115,6 +115,7 @@ final class Twin {
 
     /** What everybody takes on a day. */
     static final class Takes {
+        private static final int PATIENCE = 60;
         final World w;
         final int[] one;
         final int[] two;
@@ -209,7 +210,8 @@ final class Twin {
         int most(int[] row, int i, int limit, int[] alsoRow, int j) {
             int was = row[i];
             int also = alsoRow == null ? 0 : alsoRow[j];
-            for (int x = limit; x >= 0; x--) {
+            int x = limit > PATIENCE ? halving(row, i, limit, alsoRow, j) : limit;
+            for (; x >= 0; x--) {
                 row[i] = was + x;
                 if (alsoRow != null) {
                     alsoRow[j] = also + x;
@@ -219,6 +221,27 @@ final class Twin {
                 }
             }
             throw new IllegalStateException("not even nothing can be");
+        }
+
+        /** The same for great limits, where each x would take too long: what CAN BE still can with less. */
+        private int halving(int[] row, int i, int limit, int[] alsoRow, int j) {
+            int was = row[i];
+            int also = alsoRow == null ? 0 : alsoRow[j];
+            int can = 0;
+            int cannot = limit + 1;
+            while (cannot - can > 1) {
+                int x = (can + cannot) / 2;
+                row[i] = was + x;
+                if (alsoRow != null) {
+                    alsoRow[j] = also + x;
+                }
+                if (canBe()) {
+                    can = x;
+                } else {
+                    cannot = x;
+                }
+            }
+            return can;
         }
 
         void first(List<Integer> takers) {

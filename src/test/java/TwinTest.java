@@ -11,6 +11,8 @@ public final class TwinTest {
     private final Twin twin = new Twin();
     private final RiverCall x = new RiverCall();
     private final String name;
+    /** Whether the river's NUMBERS go as far as they may. */
+    private boolean great;
 
     private TwinTest(long seed) {
         random = new Random(seed);
@@ -37,6 +39,14 @@ public final class TwinTest {
         return random.nextInt(n) == 0;
     }
 
+    /** Up to a small number, or in a great river up to a great one, which comes often itself. */
+    private int size(int low, int small, int highest) {
+        if (!great) {
+            return from(low, small);
+        }
+        return oneIn(4) ? highest : from(low, highest);
+    }
+
     private void run() {
         tellRiver();
         for (int k = 0; k < 120; k++) {
@@ -56,6 +66,7 @@ public final class TwinTest {
         }
         Collections.shuffle(ages, random);
         boolean crowded = oneIn(3);
+        great = oneIn(4);
         int reaches = crowded ? from(4, 9) : from(1, 6);
         for (int i = 0; i < reaches; i++) {
             addReach(i);
@@ -82,9 +93,9 @@ public final class TwinTest {
     private void addReach(int i) {
         Twin.Reach r = new Twin.Reach();
         r.down = i == 0 || oneIn(6) ? -2 : upTo(i - 1);
-        r.sink = oneIn(2) ? upTo(20) : 0;
+        r.sink = oneIn(2) ? size(0, 20, oneIn(3) ? 9999 : 3000) : 0;
         for (int q = 0; q < 4; q++) {
-            r.inflow[q] = oneIn(3) ? 0 : upTo(25);
+            r.inflow[q] = oneIn(3) ? 0 : size(0, 25, 9999);
         }
         twin.w.reaches.add(r);
     }
@@ -92,13 +103,13 @@ public final class TwinTest {
     private void addRight(int age) {
         Twin.Right r = new Twin.Right();
         r.at = upTo(twin.w.reaches.size() - 1);
-        r.rate = from(1, 25);
+        r.rate = size(1, 25, 9999);
         r.from = oneIn(2) ? 0 : upTo(100);
         r.to = oneIn(2) ? 359 : from(r.from, 359);
         r.age = age;
         r.demand = r.rate;
         if (oneIn(3)) {
-            r.volume = from(1, 400);
+            r.volume = size(1, 400, 999999);
             r.left = r.volume;
         }
         if (oneIn(2)) {
@@ -112,8 +123,8 @@ public final class TwinTest {
     private void addStore(int age) {
         Twin.Store s = new Twin.Store();
         s.at = upTo(twin.w.reaches.size() - 1);
-        s.size = from(1, 200);
-        s.rate = from(1, 20);
+        s.size = size(1, 200, 999999);
+        s.rate = size(1, 20, 9999);
         s.age = age;
         twin.w.stores.add(s);
     }
@@ -156,7 +167,7 @@ public final class TwinTest {
         int j = anyRight();
         int s = anyStore();
         int r = anyReach();
-        int v = oneIn(10) ? from(-1, 400) : upTo(30);
+        int v = oneIn(10) ? from(-1, great ? 10000 : 400) : size(0, 30, 9999);
         switch (random.nextInt(14)) {
             case 0: case 1: case 2:
                 int n = oneIn(10) ? from(0, 61) : from(1, 12);
@@ -316,7 +327,7 @@ public final class TwinTest {
                 DUE.is(name + "spell " + i + " " + n + " " + what, x.spell(i, n, what), twin.spell(i, n, what));
                 break;
             case 10: case 11:
-                int more = from(oneIn(5) ? -1 : 0, 30);
+                int more = oneIn(10) ? (oneIn(2) ? -1 : 10000) : size(0, 30, 9999);
                 DUE.is(name + "gain " + r + " " + more + " " + n, x.gain(r, more, n), twin.gain(r, more, n));
                 break;
             case 12:
